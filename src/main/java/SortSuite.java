@@ -8,6 +8,8 @@ public final class SortSuite {
     private static final int GREATEST_NUMBER = 99;
     private static final int GREATEST_STEP = 99;
     private static final int NUMBER_KINDS = GREATEST_NUMBER - LEAST_NUMBER + 1;
+    // One more than there are kinds: each count is kept one step behind its own key.
+    private static final int START_COUNT = NUMBER_KINDS + 1;
     private static final int KEY_BITS = 8;
     private static final int NONE = -1;
 
@@ -33,8 +35,7 @@ public final class SortSuite {
 
     private final int[] rangeLow = new int[CAPACITY];
     private final int[] rangeHigh = new int[CAPACITY];
-    // One more than there are numbers: each count is kept one step behind its own key.
-    private final int[] starts = new int[NUMBER_KINDS + 1];
+    private final int[] starts = new int[START_COUNT];
     private final int[] earlierChild = new int[CAPACITY];
     private final int[] laterChild = new int[CAPACITY];
     private final int[] pending = new int[CAPACITY];
@@ -91,10 +92,9 @@ public final class SortSuite {
         if (!isPlace(i) || !isPlace(j) || i > j) {
             return false;
         }
-        int high = j;
-        for (int low = i; low < high; low++) {
-            swap(numbers, low, high);
-            high--;
+        int half = (j - i + 1) / 2;
+        for (int k = 0; k < half; k++) {
+            swap(numbers, i + k, j - k);
         }
         return true;
     }
@@ -446,14 +446,14 @@ public final class SortSuite {
     }
 
     private void orderByCounting(int[] order) {
-        for (int key = 0; key <= NUMBER_KINDS; key++) {
+        for (int key = 0; key < START_COUNT; key++) {
             starts[key] = 0;
         }
         for (int place = 0; place < count; place++) {
             int key = keyOf(place);
             starts[key + 1]++;
         }
-        for (int key = 1; key <= NUMBER_KINDS; key++) {
+        for (int key = 1; key < START_COUNT; key++) {
             starts[key] += starts[key - 1];
         }
         for (int place = 0; place < count; place++) {
