@@ -1,75 +1,122 @@
 import java.lang.reflect.Constructor;
+import java.lang.reflect.Executable;
 import java.lang.reflect.Field;
 import java.lang.reflect.Method;
 import java.lang.reflect.Modifier;
+import java.util.ArrayList;
+import java.util.List;
 import java.util.Set;
 import java.util.TreeSet;
 
-/** The public face: exactly the document's members, and nothing else that another class can reach. */
+/**
+ * The public face: exactly the members of the document's code block, and nothing else that another class can
+ * reach. Parameters bear the document's names, too, so the class is compiled with -parameters.
+ */
 public final class FaceTest {
     private static final Checks CHECKS = new Checks();
 
-    public static void main(String[] args) {
-        CHECKS.due("class is public final", SortSuite.class.getModifiers(), Modifier.PUBLIC | Modifier.FINAL);
-        CHECKS.due("BAD", SortSuite.BAD, -1000);
-        CHECKS.due("FULL", SortSuite.FULL, -2000);
-        sameNames("fields", fields(), Set.of(
-            "public static final int SortSuite.BAD",
-            "public static final int SortSuite.FULL"));
-        sameNames("constructors", constructors(), Set.of("public SortSuite()"));
-        sameNames("methods", methods(), Set.of(
-            "public int SortSuite.append(int,int,int)",
-            "public int SortSuite.repeat(int,boolean)",
-            "public int SortSuite.change(int,int)",
-            "public boolean SortSuite.turn(int,int)",
-            "public int SortSuite.remove(int)",
-            "public int SortSuite.at(int)",
-            "public int SortSuite.size()",
-            "public int SortSuite.sorted(int,int)",
-            "public int SortSuite.place(int,int)",
-            "public boolean SortSuite.agree(int,int)",
-            "public int SortSuite.sort(int)",
-            "public int SortSuite.select(int)",
-            "public int SortSuite.inversions()",
-            "public int SortSuite.exchanges()",
-            "public int SortSuite.growing()",
-            "public int SortSuite.find(int)"));
+    /** The code block as the document has it, word for word. */
+    private static final String DOCUMENT = """
+        public final class SortSuite {
+            public static final int BAD = -1000;
+            public static final int FULL = -2000;
+            public SortSuite();
+            public int append(int v, int step, int n);
+            public int repeat(int n, boolean turned);
+            public int change(int i, int v);
+            public boolean turn(int i, int j);
+            public int remove(int i);
+            public int at(int i);
+            public int size();
+            public int sorted(int engine, int k);
+            public int place(int engine, int k);
+            public boolean agree(int engine, int other);
+            public int sort(int engine);
+            public int select(int k);
+            public int inversions();
+            public int exchanges();
+            public int growing();
+            public int find(int v);
+        }
+        """;
+
+    public static void main(String[] args) throws IllegalAccessException {
+        CHECKS.sentence("The public face");
+        Set<String> due = dueLines();
+        Set<String> found = foundLines();
+        for (String line : due) {
+            CHECKS.due("is there: " + line, found.contains(line), true);
+        }
+        for (String line : found) {
+            CHECKS.due("is the document's: " + line, due.contains(line), true);
+        }
+        standsAlone();
+        constantsAreKnownToTheCompiler();
         CHECKS.end();
     }
 
-    private static void sameNames(String what, Set<String> got, Set<String> want) {
-        boolean same = got.equals(want);
-        CHECKS.due(what + " are the document's", same, true);
-        if (!same) {
-            System.out.println("found: " + got);
+    private static Set<String> dueLines() {
+        Set<String> lines = new TreeSet<>();
+        for (String line : DOCUMENT.split("\n")) {
+            lines.add(line.strip());
         }
+        lines.remove("}");
+        return lines;
     }
 
-    private static Set<String> fields() {
-        Set<String> names = new TreeSet<>();
+    private static Set<String> foundLines() throws IllegalAccessException {
+        Set<String> lines = new TreeSet<>();
+        lines.add(Modifier.toString(SortSuite.class.getModifiers()) + " class " + SortSuite.class.getName() + " {");
         for (Field field : SortSuite.class.getDeclaredFields()) {
             if (!Modifier.isPrivate(field.getModifiers())) {
-                names.add(field.toString());
+                lines.add(told(field));
             }
         }
-        return names;
-    }
-
-    private static Set<String> constructors() {
-        Set<String> names = new TreeSet<>();
         for (Constructor<?> constructor : SortSuite.class.getDeclaredConstructors()) {
-            names.add(constructor.toString());
+            lines.add(told(constructor, constructor.getName()));
         }
-        return names;
-    }
-
-    private static Set<String> methods() {
-        Set<String> names = new TreeSet<>();
         for (Method method : SortSuite.class.getDeclaredMethods()) {
             if (!Modifier.isPrivate(method.getModifiers())) {
-                names.add(method.toString());
+                lines.add(told(method, method.getReturnType().getTypeName() + " " + method.getName()));
             }
         }
-        return names;
+        return lines;
+    }
+
+    private static String told(Field field) throws IllegalAccessException {
+        String start = Modifier.toString(field.getModifiers()) + " " + field.getType().getTypeName();
+        String value = Modifier.isStatic(field.getModifiers()) ? " = " + field.get(null) : "";
+        return start + " " + field.getName() + value + ";";
+    }
+
+    private static String told(Executable member, String name) {
+        List<String> parameters = new ArrayList<>();
+        for (var parameter : member.getParameters()) {
+            parameters.add(parameter.toString());
+        }
+        String thrown = member.getExceptionTypes().length == 0 ? "" : " throws ..";
+        return Modifier.toString(member.getModifiers()) + " " + name
+            + "(" + String.join(", ", parameters) + ")" + thrown + ";";
+    }
+
+    private static void standsAlone() {
+        CHECKS.due("extends nothing", SortSuite.class.getSuperclass() == Object.class, true);
+        CHECKS.due("interfaces", SortSuite.class.getInterfaces().length, 0);
+        CHECKS.due("nested classes", SortSuite.class.getDeclaredClasses().length, 0);
+    }
+
+    /** A constant that is reckoned only when the class is loaded would not compile as a case. */
+    private static void constantsAreKnownToTheCompiler() {
+        CHECKS.due("case of at(0) of an empty list", caseOf(new SortSuite().at(0)), 1);
+        CHECKS.due("case of append to 40", caseOf(Checks.listOf(Checks.mixed(40)).append(0, 0, 1)), 2);
+        CHECKS.due("case of size()", caseOf(new SortSuite().size()), 0);
+    }
+
+    private static int caseOf(int answer) {
+        switch (answer) {
+            case SortSuite.BAD: return 1;
+            case SortSuite.FULL: return 2;
+            default: return 0;
+        }
     }
 }

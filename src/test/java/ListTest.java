@@ -1,19 +1,33 @@
-/** Promises 2 to 8 in ordinary use: the list and the calls that change it. */
+/** Promises 1 to 8 in ordinary use: the list and the calls that change it. */
 public final class ListTest {
     private static final Checks CHECKS = new Checks();
 
     public static void main(String[] args) {
-        appendOrdinary();
-        repeatOrdinary();
+        newObject();
+        append();
+        repeat();
         change();
         turn();
         remove();
-        atAndSize();
-        objectsAreApart();
+        at();
+        size();
         CHECKS.end();
     }
 
-    private static void appendOrdinary() {
+    private static void newObject() {
+        CHECKS.sentence("1: an empty list");
+        CHECKS.dueList("of a new object", new SortSuite());
+        SortSuite one = Checks.listOf(1, 2);
+        SortSuite other = new SortSuite();
+        CHECKS.dueList("of another new object", other);
+        CHECKS.due("append(7, 0, 1)", other.append(7, 0, 1), 1);
+        CHECKS.due("change(0, 5)", one.change(0, 5), 1);
+        CHECKS.dueList("of the one object", one, 5, 2);
+        CHECKS.dueList("of the other object", other, 7);
+    }
+
+    private static void append() {
+        CHECKS.sentence("2: append");
         SortSuite suite = new SortSuite();
         CHECKS.due("append(4, 3, 3)", suite.append(4, 3, 3), 3);
         CHECKS.due("append(-2, -5, 2)", suite.append(-2, -5, 2), 5);
@@ -25,7 +39,8 @@ public final class ListTest {
         CHECKS.dueList("after append", suite, 4, 7, 10, -2, -7, 6, 6, 99, -99, -99, 0, 99, 99, 0, -99);
     }
 
-    private static void repeatOrdinary() {
+    private static void repeat() {
+        CHECKS.sentence("3: repeat");
         SortSuite suite = Checks.listOf(3, -4, 0);
         CHECKS.due("repeat(2, false)", suite.repeat(2, false), 5);
         CHECKS.dueList("after repeat(2, false)", suite, 3, -4, 0, 3, -4);
@@ -41,6 +56,7 @@ public final class ListTest {
     }
 
     private static void change() {
+        CHECKS.sentence("4: change");
         SortSuite suite = Checks.listOf(5, 6, 7);
         CHECKS.due("change(0, 99)", suite.change(0, 99), 5);
         CHECKS.due("change(2, -99)", suite.change(2, -99), 7);
@@ -50,6 +66,7 @@ public final class ListTest {
     }
 
     private static void turn() {
+        CHECKS.sentence("5: turn");
         SortSuite suite = Checks.listOf(1, 2, 3, 4, 5);
         CHECKS.due("turn(0, 4)", suite.turn(0, 4), true);
         CHECKS.dueList("after turn(0, 4)", suite, 5, 4, 3, 2, 1);
@@ -63,6 +80,7 @@ public final class ListTest {
     }
 
     private static void remove() {
+        CHECKS.sentence("6: remove");
         SortSuite suite = Checks.listOf(1, 2, 3, 4);
         CHECKS.due("remove(1)", suite.remove(1), 2);
         CHECKS.dueList("after remove(1)", suite, 1, 3, 4);
@@ -74,17 +92,33 @@ public final class ListTest {
         CHECKS.dueList("after all are out", suite);
     }
 
-    private static void atAndSize() {
+    private static void at() {
+        CHECKS.sentence("7: at");
         SortSuite suite = Checks.listOf(-99, 0, 99);
         CHECKS.dueList("of -99, 0, 99", suite, -99, 0, 99);
-        CHECKS.due("size()", suite.size(), 3);
+        suite.remove(0);
+        CHECKS.due("at(0) after remove(0)", suite.at(0), 0);
+        suite.change(0, 12);
+        CHECKS.due("at(0) after change(0, 12)", suite.at(0), 12);
+        suite.turn(0, 1);
+        CHECKS.due("at(0) after turn(0, 1)", suite.at(0), 99);
+        suite.sort(0);
+        CHECKS.due("at(0) after sort(0)", suite.at(0), 12);
     }
 
-    private static void objectsAreApart() {
-        SortSuite one = Checks.listOf(1, 2);
-        SortSuite other = Checks.listOf(7);
-        one.change(0, 5);
-        CHECKS.dueList("of one object", one, 5, 2);
-        CHECKS.dueList("of another object", other, 7);
+    private static void size() {
+        CHECKS.sentence("8: size");
+        SortSuite suite = new SortSuite();
+        CHECKS.due("size()", suite.size(), 0);
+        suite.append(4, 4, 4);
+        CHECKS.due("size() after append of 4", suite.size(), 4);
+        suite.repeat(3, true);
+        CHECKS.due("size() after repeat of 3", suite.size(), 7);
+        suite.remove(5);
+        CHECKS.due("size() after remove", suite.size(), 6);
+        suite.change(2, 50);
+        suite.turn(1, 4);
+        suite.sort(9);
+        CHECKS.due("size() after change, turn and sort", suite.size(), 6);
     }
 }

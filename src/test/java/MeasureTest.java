@@ -21,12 +21,16 @@ public final class MeasureTest {
 
     private static void measures(String name, int inversions, int exchanges, int growing, int... numbers) {
         SortSuite suite = Checks.listOf(numbers);
+        CHECKS.sentence("14: inversions");
         CHECKS.due("inversions() of " + name, suite.inversions(), inversions);
+        CHECKS.sentence("15: exchanges");
         CHECKS.due("exchanges() of " + name, suite.exchanges(), exchanges);
+        CHECKS.sentence("16: growing");
         CHECKS.due("growing() of " + name, suite.growing(), growing);
     }
 
     private static void find() {
+        CHECKS.sentence("17: find");
         SortSuite suite = Checks.listOf(4, -99, 4, 99, 0, 4);
         CHECKS.due("find(-100)", suite.find(-100), 0);
         CHECKS.due("find(-99)", suite.find(-99), 0);
@@ -40,6 +44,7 @@ public final class MeasureTest {
     }
 
     private static void nothingIsChanged() {
+        CHECKS.sentence("14 to 17: asked twice");
         int[] numbers = {4, -99, 4, 99, 0, 4};
         SortSuite suite = Checks.listOf(numbers);
         for (int round = 0; round < 2; round++) {
@@ -53,6 +58,7 @@ public final class MeasureTest {
 
     /** The least number of exchanges as the words say it: tried out, not reckoned from cycles. */
     private static void exchangesBySearch() {
+        CHECKS.sentence("15: the least number of exchanges");
         int[] values = {-1, 0, 1, 2, 3};
         for (int code = 0; code < 3125; code++) {
             int[] numbers = new int[5];

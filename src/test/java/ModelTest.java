@@ -8,10 +8,13 @@ public final class ModelTest {
     private final SortSuite suite = new SortSuite();
     private final Model model = new Model();
     private final int run;
+    // Runs stay about different sizes: left alone, nearly all of them would soon be full.
+    private final int aim;
     private long state;
 
     private ModelTest(int run) {
         this.run = run;
+        this.aim = run % (Checks.CAPACITY + 1);
         this.state = run * 7919L + 1;
     }
 
@@ -55,6 +58,11 @@ public final class ModelTest {
     }
 
     private void oneCall() {
+        if (model.size() > aim && pick(0, 2) == 0) {
+            int place = pick(0, model.size() - 1);
+            CHECKS.due("remove(" + place + ") in run " + run, suite.remove(place), model.remove(place));
+            return;
+        }
         int i = pickPlace();
         int j = pickPlace();
         int v = pickNumber();

@@ -1,9 +1,14 @@
 /** Promises 9 to 13 in ordinary use: the sorted order, by each engine. */
 public final class OrderTest {
     private static final Checks CHECKS = new Checks();
+    private static final int[] NUMBERS = {5, -3, 5, 99, -99, -3, 0};
+    private static final int[] PLACES = {4, 1, 5, 6, 0, 2, 3};
 
     public static void main(String[] args) {
-        ordinary();
+        sortedAndPlace();
+        agree();
+        sort();
+        select();
         everyShortList();
         longLists();
         sortCountsByPlaces();
@@ -11,18 +16,36 @@ public final class OrderTest {
         CHECKS.end();
     }
 
-    private static void ordinary() {
-        int[] numbers = {5, -3, 5, 99, -99, -3, 0};
-        int[] places = {4, 1, 5, 6, 0, 2, 3};
+    private static void sortedAndPlace() {
         for (int engine = 0; engine < Checks.ENGINES; engine++) {
-            SortSuite suite = Checks.listOf(numbers);
-            for (int k = 0; k < numbers.length; k++) {
+            SortSuite suite = Checks.listOf(NUMBERS);
+            for (int k = 0; k < NUMBERS.length; k++) {
                 String call = "(" + engine + ", " + k + ")";
-                CHECKS.due("place" + call, suite.place(engine, k), places[k]);
-                CHECKS.due("sorted" + call, suite.sorted(engine, k), numbers[places[k]]);
-                CHECKS.due("select(" + k + ")", suite.select(k), numbers[places[k]]);
+                CHECKS.sentence("9: sorted");
+                CHECKS.due("sorted" + call, suite.sorted(engine, k), NUMBERS[PLACES[k]]);
+                CHECKS.sentence("10: place");
+                CHECKS.due("place" + call, suite.place(engine, k), PLACES[k]);
             }
-            CHECKS.dueList("after looking", suite, numbers);
+            CHECKS.dueList("after looking", suite, NUMBERS);
+        }
+    }
+
+    private static void agree() {
+        CHECKS.sentence("11: agree");
+        SortSuite suite = Checks.listOf(NUMBERS);
+        for (int engine = 0; engine < Checks.ENGINES; engine++) {
+            for (int other = 0; other < Checks.ENGINES; other++) {
+                CHECKS.due("agree(" + engine + ", " + other + ")", suite.agree(engine, other), true);
+            }
+        }
+        CHECKS.due("agree(3, 12)", suite.agree(3, 12), false);
+        CHECKS.dueList("after agree", suite, NUMBERS);
+    }
+
+    private static void sort() {
+        CHECKS.sentence("12: sort");
+        for (int engine = 0; engine < Checks.ENGINES; engine++) {
+            SortSuite suite = Checks.listOf(NUMBERS);
             CHECKS.due("sort(" + engine + ")", suite.sort(engine), 6);
             CHECKS.dueList("after sort(" + engine + ")", suite, -99, -3, -3, 0, 5, 5, 99);
             CHECKS.due("sort(" + engine + ") again", suite.sort(engine), 0);
@@ -30,8 +53,18 @@ public final class OrderTest {
         }
     }
 
+    private static void select() {
+        CHECKS.sentence("13: select");
+        SortSuite suite = Checks.listOf(NUMBERS);
+        for (int k = 0; k < NUMBERS.length; k++) {
+            CHECKS.due("select(" + k + ")", suite.select(k), NUMBERS[PLACES[k]]);
+        }
+        CHECKS.dueList("after select", suite, NUMBERS);
+    }
+
     /** Every list of up to five numbers out of five, so each way in which equal ones can lie. */
     private static void everyShortList() {
+        CHECKS.sentence("9 to 13: every short list");
         int[] values = {-99, -1, 0, 28, 99};
         int lists = 1;
         for (int length = 1; length <= 5; length++) {
@@ -49,6 +82,7 @@ public final class OrderTest {
     }
 
     private static void longLists() {
+        CHECKS.sentence("9 to 13: long lists");
         for (int length = 6; length <= 40; length++) {
             int[] rising = new int[length];
             int[] falling = new int[length];
@@ -97,6 +131,7 @@ public final class OrderTest {
     }
 
     private static void sortCountsByPlaces() {
+        CHECKS.sentence("12: by their places, also among equal ones");
         for (int engine = 0; engine < Checks.ENGINES; engine++) {
             // The 2 that comes to place 1 was at place 0, though a 2 was at place 1 before, too.
             CHECKS.due("sort(" + engine + ") of 2 2 1", Checks.listOf(2, 2, 1).sort(engine), 3);
@@ -108,6 +143,7 @@ public final class OrderTest {
 
     /** A longer order that was found before leaves nothing behind. */
     private static void orderIsFoundAnew() {
+        CHECKS.sentence("10: place, after each call that changes the list");
         for (int engine = 0; engine < Checks.ENGINES; engine++) {
             SortSuite suite = Checks.listOf(9, 8, 7, 6);
             CHECKS.due("place(" + engine + ", 0)", suite.place(engine, 0), 3);
